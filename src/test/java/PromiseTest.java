@@ -360,6 +360,7 @@ public final class PromiseTest {
         }
         Due.due("2 of 3: withstand(0)", one(2, 7).withstand(0), 2);
         Due.due("machine 7: withstand(0)", one(1, 128).withstand(0), 1);
+        Due.due("0 or 1, and 7: withstand(0)", joined(1, 3, 1, 128, true).withstand(0), 1);
         Due.due("3, 4: withstand(0)", threeOrFour().withstand(0), 2);
         Due.due("all sets: withstand(0)", allSets().withstand(0), 9);
         Due.due("no set: withstand(0)", noSet().withstand(0), 0);
