@@ -45,10 +45,14 @@ final class Due {
         }
     }
 
-    /** The families from the top down, each as 256 digits. */
+    /**
+     * What drop and atLeast would answer, then the families from the top down, each as 256 digits.
+     * The answer of atLeast is there because drop alone does not show a count that sank below 0.
+     */
     static String stateOf(Supplier<QuorumDesk> made) {
         StringBuilder state = new StringBuilder();
         int below = made.get().drop();
+        state.append(below).append(' ').append(made.get().atLeast(1, 255)).append('\n');
         for (int k = 0; k <= below; k++) {
             state.append(familyOf(made, k)).append('\n');
         }

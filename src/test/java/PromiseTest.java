@@ -3,8 +3,6 @@ import java.util.function.Supplier;
 
 /** For each promise: ordinary inputs, the edges that the document names, and wrong inputs. */
 public final class PromiseTest {
-    private static final int[] FAR_NUMBERS = {Integer.MIN_VALUE, -256, -2, -1, 256, Integer.MAX_VALUE};
-
     private PromiseTest() {
     }
 
@@ -50,13 +48,8 @@ public final class PromiseTest {
         return one(1, 0);
     }
 
-    /** Ten families of one machine each: from the bottom up 0 to 7, then 7 twice more. */
     private static QuorumDesk full() {
-        QuorumDesk x = new QuorumDesk();
-        for (int m = 0; m < 10; m++) {
-            x.atLeast(1, 1 << Math.min(m, 7));
-        }
-        return x;
+        return Stacks.ladder(10);
     }
 
     /** Least sets 3 (machines 0 and 1) and 4 (machine 2). */
@@ -107,10 +100,8 @@ public final class PromiseTest {
         family("atLeast(1, MIN_VALUE)", () -> one(1, Integer.MIN_VALUE), 0, s -> false);
         family("below atLeast", () -> two(2, 3, 1, 4), 1, s -> has(s, 3));
         family("atLeast over a dropped family", PromiseTest::putOverDropped, 0, s -> has(s, 3));
-        for (int count : new int[] {Integer.MIN_VALUE, -1, 9, 10, Integer.MAX_VALUE}) {
-            Due.refused("atLeast(" + count + ", 255) on none", PromiseTest::empty, x -> x.atLeast(count, 255));
-            Due.refused("atLeast(" + count + ", 255) on one", () -> one(2, 7), x -> x.atLeast(count, 255));
-        }
+        Due.refused("atLeast(-1, 0) on one", () -> one(2, 7), x -> x.atLeast(-1, 0));
+        Due.refused("atLeast(9, 255) on one", () -> one(2, 7), x -> x.atLeast(9, 255));
         Due.refused("atLeast(1, 1) on ten", PromiseTest::full, x -> x.atLeast(1, 1));
         fillsToTen();
     }
@@ -223,13 +214,13 @@ public final class PromiseTest {
         QuorumDesk nine = full();
         nine.drop();
         Due.due("copy(8) on nine", nine.copy(8), 10);
-        Due.due("copied from the bottom of nine", nine.leastSet(0, 0), 1);
+        Due.due("copied from the bottom of nine: withstand(0)", nine.withstand(0), 0);
         Due.refused("copy(0) on none", PromiseTest::empty, x -> x.copy(0));
         Due.refused("copy(1) on one", () -> one(2, 7), x -> x.copy(1));
         Due.refused("copy(2) on two", () -> two(2, 3, 1, 4), x -> x.copy(2));
         Due.refused("copy(0) on ten", PromiseTest::full, x -> x.copy(0));
         Due.refused("copy(9) on ten", PromiseTest::full, x -> x.copy(9));
-        for (int k : FAR_NUMBERS) {
+        for (int k : Stacks.FAR) {
             Due.refused("copy(" + k + ") on two", () -> two(2, 3, 1, 4), x -> x.copy(k));
         }
     }
@@ -244,7 +235,7 @@ public final class PromiseTest {
         for (int left = 9; left >= 0; left--) {
             Due.due("drop() down to " + left, x.drop(), left);
             if (left > 0) {
-                Due.due("top after drop() to " + left, x.leastSet(0, 0), 1 << Math.min(left - 1, 7));
+                Due.due("top after drop() to " + left + ": withstand(0)", x.withstand(0), left - 1);
             }
         }
         Due.due("drop() on none left", x.drop(), -1);
@@ -269,13 +260,15 @@ public final class PromiseTest {
         Due.due("two: enough(0, 4)", two(2, 3, 1, 4).enough(0, 4), 1);
         Due.due("two: enough(1, 4)", two(2, 3, 1, 4).enough(1, 4), 0);
         Due.due("two: enough(1, 3)", two(2, 3, 1, 4).enough(1, 3), 1);
-        Due.due("ten: enough(9, 1)", full().enough(9, 1), 1);
-        Due.due("ten: enough(9, 254)", full().enough(9, 254), 0);
+        Due.due("ten: enough(9, 255)", full().enough(9, 255), 0);
+        Due.due("ten: enough(8, 1)", full().enough(8, 1), 1);
+        Due.due("ten: enough(8, 254)", full().enough(8, 254), 0);
+        Due.due("ten: enough(0, 0)", full().enough(0, 0), 1);
         Due.unchanged("enough(1, 3)", () -> two(2, 3, 1, 4), x -> x.enough(1, 3));
         Due.refused("enough(0, 0) on none", PromiseTest::empty, x -> x.enough(0, 0));
         Due.refused("enough(1, 3) on one", () -> one(2, 7), x -> x.enough(1, 3));
         Due.refused("enough(10, 1) on ten", PromiseTest::full, x -> x.enough(10, 1));
-        for (int k : FAR_NUMBERS) {
+        for (int k : Stacks.FAR) {
             Due.refused("enough(" + k + ", 3) on two", () -> two(2, 3, 1, 4), x -> x.enough(k, 3));
         }
     }
@@ -294,7 +287,7 @@ public final class PromiseTest {
         Due.refused("leastSets(0) on none", PromiseTest::empty, x -> x.leastSets(0));
         Due.refused("leastSets(1) on one", () -> one(2, 7), x -> x.leastSets(1));
         Due.refused("leastSets(10) on ten", PromiseTest::full, x -> x.leastSets(10));
-        for (int k : FAR_NUMBERS) {
+        for (int k : Stacks.FAR) {
             Due.refused("leastSets(" + k + ") on two", () -> two(2, 3, 1, 4), x -> x.leastSets(k));
         }
     }
@@ -318,7 +311,7 @@ public final class PromiseTest {
         Due.refused("leastSet(0, 0) on none", PromiseTest::empty, x -> x.leastSet(0, 0));
         Due.refused("leastSet(1, 0) on one", () -> one(2, 7), x -> x.leastSet(1, 0));
         Due.refused("leastSet(10, 0) on ten", PromiseTest::full, x -> x.leastSet(10, 0));
-        for (int far : FAR_NUMBERS) {
+        for (int far : Stacks.FAR) {
             Due.refused("leastSet(" + far + ", 0) on two", () -> two(2, 3, 1, 4), x -> x.leastSet(far, 0));
             Due.refused("leastSet(0, " + far + ") on two", () -> two(2, 3, 1, 4), x -> x.leastSet(0, far));
         }
@@ -348,7 +341,7 @@ public final class PromiseTest {
         Due.refused("meet(1, 0) on one", () -> one(2, 7), x -> x.meet(1, 0));
         Due.refused("meet(9, 10) on ten", PromiseTest::full, x -> x.meet(9, 10));
         Due.refused("meet(10, 9) on ten", PromiseTest::full, x -> x.meet(10, 9));
-        for (int far : FAR_NUMBERS) {
+        for (int far : Stacks.FAR) {
             Due.refused("meet(" + far + ", 0) on two", () -> two(2, 3, 1, 4), x -> x.meet(far, 0));
             Due.refused("meet(0, " + far + ") on two", () -> two(2, 3, 1, 4), x -> x.meet(0, far));
         }
@@ -369,7 +362,7 @@ public final class PromiseTest {
         Due.refused("withstand(0) on none", PromiseTest::empty, x -> x.withstand(0));
         Due.refused("withstand(1) on one", () -> one(2, 7), x -> x.withstand(1));
         Due.refused("withstand(10) on ten", PromiseTest::full, x -> x.withstand(10));
-        for (int k : FAR_NUMBERS) {
+        for (int k : Stacks.FAR) {
             Due.refused("withstand(" + k + ") on two", () -> two(2, 3, 1, 4), x -> x.withstand(k));
         }
     }
